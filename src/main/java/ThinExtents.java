@@ -418,6 +418,9 @@ public final class ThinExtents {
         }
         pool.setWord(extent, w % WORDS, x);
         live.setExtent(volume, place, extent);
+        if (pool.countFree() == pool.alarmAt) {
+            pool.alarms++;
+        }
         return before == NONE ? 1 : 2;
     }
 
@@ -696,15 +699,11 @@ public final class ThinExtents {
         }
 
         boolean isFree(int extent) {
-            return live.usesOf(extent) == 0 && isLiveAlone(extent);
+            return live.usesOf(extent) + committed.usesOf(extent) + held.usesOf(extent) == 0;
         }
 
         boolean isSole(int extent) {
-            return live.usesOf(extent) == 1 && isLiveAlone(extent);
-        }
-
-        private boolean isLiveAlone(int extent) {
-            return committed.usesOf(extent) == 0 && held.usesOf(extent) == 0;
+            return live.usesOf(extent) == 1 && committed.usesOf(extent) + held.usesOf(extent) == 0;
         }
 
         boolean areFree(int from, int end) {
@@ -728,29 +727,15 @@ public final class ThinExtents {
 
         /** Answers the EXTENT that is TAKEN, which the caller maps at once; NONE if none is FREE. */
         int take() {
-            int extent = nextFree();
-            if (extent == NONE) {
-                return NONE;
-            }
-            cursor = extent + 1 < size ? extent + 1 : 0;
-            taken++;
-            // The one taken still counts as FREE here: nothing is MAPPED to it yet.
-            if (countFree() - 1 == alarmAt) {
-                alarms++;
-            }
-            return extent;
-        }
-
-        private int nextFree() {
             int extent = cursor;
             for (int i = 0; i < size; i++) {
-                if (extent >= size) {
-                    extent = 0;
-                }
+                int next = extent + 1 < size ? extent + 1 : 0;
                 if (isFree(extent)) {
+                    cursor = next;
+                    taken++;
                     return extent;
                 }
-                extent++;
+                extent = next;
             }
             return NONE;
         }

@@ -691,6 +691,7 @@ public final class PromiseTest {
         Check.due("what waited failed", 1, y.told(4));
         Check.due("and is not there", 0, y.read(0, 32));
         Check.due("counted", 2, y.commit());
+        whatComesBack();
         ThinExtents z = full(10);
         Check.due("cut before any commit", 0, z.cut(0));
         Check.due("all free", 8, z.told(1));
@@ -710,6 +711,31 @@ public final class PromiseTest {
         Check.due("cut counts what waited as failed, though there is room", 1, w.told(4));
         Check.due("room", 3, w.told(1));
         Check.due("not done", NONE, w.map(0, 0, 0));
+    }
+
+    /** A CUT brings back all that a VOLUME was, behind another one of the same number. */
+    private static void whatComesBack() {
+        ThinExtents x = new ThinExtents();
+        x.make(0, 9, true);
+        x.quota(0, 4);
+        x.write(0, 0, 1);
+        x.write(0, 32, 2);
+        x.snap(0, 1);
+        x.drop(0);
+        x.commit();
+        x.drop(1);
+        x.make(1, 2, false);
+        x.write(1, 0, 3);
+        Check.due("cursor", 3, x.told(6));
+        Check.due("cut", 1, x.cut(0));
+        Check.due("cursor", 0, x.told(6));
+        int[] due = {9, 2, 8, 2, 0, 0, 1, 4};
+        for (int what = 0; what < due.length; what++) {
+            Check.due("what comes back: " + what, due[what], x.volume(1, what));
+        }
+        Check.due("what was taken since is free", 6, x.told(1));
+        Check.due("taken from 0 on", 1, x.write(1, 4, 1));
+        Check.due("the first that is free", 2, x.map(0, 1, 1));
     }
 
     private static void hold() {
@@ -970,7 +996,33 @@ public final class PromiseTest {
         Check.due("second now", 64 * 15 + 39, x.user(0, 1));
     }
 
+    /** FAILED is counted on, whatever made the WRITES FAIL. */
+    private static void failedAdds() {
+        ThinExtents x = full(4);
+        x.make(1, 2, false);
+        x.make(2, 2, false);
+        x.write(1, 0, 1);
+        x.write(2, 0, 1);
+        x.drop(1);
+        Check.due("by a drop", 1, x.told(4));
+        x.drop(2);
+        Check.due("by another drop", 2, x.told(4));
+        x.write(0, 32, 1);
+        x.tick(4);
+        Check.due("by time", 3, x.told(4));
+        x.grow(1);
+        x.write(0, 32, 1);
+        x.write(0, 36, 1);
+        x.quota(0, 9);
+        Check.due("by a quota", 4, x.told(4));
+        x.quota(0, 10);
+        x.write(0, 36, 1);
+        x.cut(0);
+        Check.due("by a cut", 5, x.told(4));
+    }
+
     private static void told() {
+        failedAdds();
         ThinExtents x = full(20);
         x.grow(1);
         x.make(5, 1, false);
