@@ -60,6 +60,10 @@ final class Check {
         }
     }
 
+    static int wrong() {
+        return wrong;
+    }
+
     static void end() {
         System.out.println(checks + " checks, " + wrong + " wrong");
         if (wrong != 0 || checks == 0) {
