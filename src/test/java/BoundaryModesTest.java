@@ -352,7 +352,7 @@ public final class BoundaryModesTest {
         Check.due("good", 0, x.told(2));
     }
 
-    /** "as long as ... one is FREE": one less than wait, and just as many */
+    /** "as long as they need none, or one is FREE": one less than wait, and just as many */
     static void asLongAsOneIsFree() {
         ThinExtents x = Scenes.queue(3);
         x.grow(2);
@@ -512,7 +512,7 @@ public final class BoundaryModesTest {
         Check.due("the other fails", 1, x.tick(1));
     }
 
-    /** "all that wait FAIL (they are counted, and gone)": eight, and what they would have written is not there */
+    /** "all that wait FAIL (they are counted, and gone), and the MODE is 2.": eight, and what they would write is not there */
     static void allThatWaitFail() {
         ThinExtents x = Scenes.queue(8);
         Check.due("eight fail", 8, x.tick(10));

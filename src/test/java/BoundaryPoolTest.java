@@ -128,7 +128,7 @@ public final class BoundaryPoolTest {
         Check.due("none", 7, x.shrink(1));
     }
 
-    /** Promise 10, "NONE when ... none would stay" */
+    /** Promise 10, "NONE when one of these is not FREE, or none would stay" */
     static void p10_noneWhenNoneWouldStay() {
         ThinExtents x = new ThinExtents();
         Check.due("one stays", 1, x.shrink(7));
@@ -376,6 +376,11 @@ public final class BoundaryPoolTest {
         Check.due("eight", 8, x.tick(10000));
         Check.due("no more", 0, x.tick(10000));
         Check.due("in all", 8, x.told(4));
+        x.grow(1);
+        x.write(0, 32, 1);
+        x.write(0, 36, 1);
+        Check.due("one, not those before", 1, x.tick(10));
+        Check.due("in all", 9, x.told(4));
         Check.due("in failing", 0, Scenes.failing().tick(10000));
         Check.due("in good", 0, Scenes.good().tick(10000));
     }

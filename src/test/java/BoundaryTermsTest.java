@@ -37,6 +37,35 @@ public final class BoundaryTermsTest {
         Check.due("a 97th", NONE, x.write(2, 64, 1));
     }
 
+    /** "at most 96": the last of them is one like the others for each of the STATES */
+    static void theLastOf96IsOneLikeTheOthers() {
+        ThinExtents x = new ThinExtents();
+        x.grow(88);
+        for (int i = 0; i < 96; i++) {
+            if (i % 40 == 0) {
+                x.make(i / 40, 40, false);
+            }
+            x.write(i / 40, i % 40 * 4, i);
+        }
+        Check.due("sole", 0, x.volume(2, 3));
+        x.commit();
+        Check.due("not sole, as it is committed", 16, x.volume(2, 3));
+        Check.due("its user", 64 * 2 + 15, x.user(95, 0));
+        x.drop(2);
+        Check.due("committed alone", 0, x.told(1));
+        x.cut(0);
+        Check.due("come back", 1, x.users(95));
+        Check.due("its word", 95, x.read(2, 60));
+        x.hold();
+        x.drop(2);
+        x.commit();
+        Check.due("held alone", 0, x.told(1));
+        x.release();
+        Check.due("free", 16, x.told(1));
+        x.cut(0);
+        Check.due("free", 0, x.users(95));
+    }
+
     /** "each holds 4 words (ints)" */
     static void anExtentHolds4Words() {
         ThinExtents x = new ThinExtents();
@@ -502,7 +531,7 @@ public final class BoundaryTermsTest {
         Check.due("and has one", 1, x.volume(0, 7));
     }
 
-    /** "a call that throws, or answers NONE, changes nothing (but for ... the MODE, where it is told)" */
+    /** "changes nothing (but for back(), quota(), and the MODE, where it is told)": the MODE */
     static void aRefusedWriteChangesTheModeAlone() {
         Twin.noneButTheMode("to failing", 2, () -> Scenes.full(0), x -> x.write(0, 32, 1));
         Twin.none("in failing", Scenes::refusing, x -> x.write(0, 32, 1));
@@ -522,10 +551,11 @@ public final class BoundaryTermsTest {
         ThinExtents z = new ThinExtents();
         z.shrink(7);
         z.make(0, 2, false);
-        for (int call = 3; call <= 511; call += 2) {
+        for (int call = 3; call <= 510; call += 2) {
             z.write(0, 0, call);
             z.discard(0, 0, 1);
         }
-        Check.due("taken behind 512 calls", 255, z.told(7));
+        Check.due("the 511th call", 1, z.write(0, 0, 511));
+        Check.due("taken behind 511 calls", 255, z.told(7));
     }
 }
